@@ -29,24 +29,9 @@ public final class FaultTest {
         }
     }
 
-    private static void feed(StrikeHall x, String text) {
-        StringBuilder padded = new StringBuilder(text);
-        while (padded.length() % 20 != 0) {
-            // What stands behind the n bytes must not count.
-            padded.append(';');
-        }
-        for (int at = 0; at < padded.length(); at += 20) {
-            int[] n = new int[5];
-            for (int i = 0; i < 20; i++) {
-                n[i / 4] = n[i / 4] << 8 | padded.charAt(at + i);
-            }
-            x.feed(n[0], n[1], n[2], n[3], n[4]);
-        }
-    }
-
     private static StrikeHall right(String text) {
         StrikeHall x = new StrikeHall();
-        feed(x, text);
+        Tape.feed(x, text, ';');
         due("hall of " + text, x.hall(text.length()), 0);
         due("fault of " + text, x.fault(), -1);
         return x;
@@ -56,7 +41,7 @@ public final class FaultTest {
         int at = marked.indexOf('|');
         String text = marked.substring(0, at) + marked.substring(at + 1);
         StrikeHall x = new StrikeHall();
-        feed(x, text);
+        Tape.feed(x, text, ';');
         due("hall of " + marked, x.hall(text.length()), kind);
         due("fault of " + marked, x.fault(), at);
         due("things behind " + marked, x.count(0), 2);
@@ -85,7 +70,7 @@ public final class FaultTest {
     }
 
     private static void misplaced() {
-        String[] texts = {"|", "   |", "\n|", "|x", "|thing 3;", "|thingss 3;", "|Things 3;", "|;", "|3;", "things|", "things  |",
+        String[] texts = {"|", "   |", "\n|", "|x", "|thing 3;", "|thingss 3;", "|thingsz 3;", "|thingsa 3;", "|Things 3;", "|;", "|3;", "things|", "things  |",
             "things |;", "things |three;", "things 3|", "things 3 |4;", "things 3 |person", "things 3;|;", "things 3; |x;",
             "things 3;|things 3;", "things 3;|3;", "things 3;person|", "things 3;person |likes", "things 3;person |3;",
             "things 3;person weight|", "things 3;person weight |;", "things 3;person weight |likes 0;", "things 3;person weight 1|",
@@ -152,7 +137,7 @@ public final class FaultTest {
         String text = "things 4;person weight 12 likes 0 and 3 over 1;law told 1 2;law steps 3;law parts;turns 0 0;";
         for (int cut = 0; cut <= text.length(); cut++) {
             StrikeHall x = new StrikeHall();
-            feed(x, text);
+            Tape.feed(x, text, ';');
             String part = text.substring(0, cut);
             boolean well = part.endsWith(";");
             boolean wordCut = part.matches(".*[a-z]$") && !part.matches(".*\\b(things|person|weight|likes|and|over|law|told|steps|parts|turns)$");
@@ -177,7 +162,7 @@ public final class FaultTest {
                 text.replace(at, end, random.nextInt(3) == 0 ? "" : " ".repeat(random.nextInt(2)) + pieces[random.nextInt(pieces.length)] + " ".repeat(random.nextInt(2)));
             }
             StrikeHall x = new StrikeHall();
-            feed(x, text.toString());
+            Tape.feed(x, text.toString(), ';');
             int[] want = Table.faultOf(text.toString());
             due("hall of " + text, x.hall(text.length()), want[0]);
             due("fault of " + text, x.fault(), want[1]);

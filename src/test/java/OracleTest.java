@@ -23,7 +23,7 @@ public final class OracleTest {
         for (int i = 0; i < 1500; i++) {
             Told told = Told.random(random);
             StrikeHall x = new StrikeHall();
-            feed(x, told.text());
+            Tape.feed(x, told.text());
             due(told, "hall", x.hall(told.text().length()), 0);
             compare(x, told, random);
             if (random.nextInt(3) == 0 && told.things < 9) {
@@ -47,20 +47,6 @@ public final class OracleTest {
         if (got != want) {
             wrong++;
             System.out.println(told.text() + " (" + told.things + " things now): " + call + " answered " + got + ", due is " + want);
-        }
-    }
-
-    static void feed(StrikeHall x, String text) {
-        StringBuilder padded = new StringBuilder(text);
-        while (padded.length() % 20 != 0) {
-            padded.append(' ');
-        }
-        for (int at = 0; at < padded.length(); at += 20) {
-            int[] n = new int[5];
-            for (int i = 0; i < 20; i++) {
-                n[i / 4] = n[i / 4] << 8 | padded.charAt(at + i);
-            }
-            x.feed(n[0], n[1], n[2], n[3], n[4]);
         }
     }
 

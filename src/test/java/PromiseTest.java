@@ -70,25 +70,9 @@ public final class PromiseTest {
         }
     }
 
-    private static int feed(StrikeHall x, String text) {
-        StringBuilder padded = new StringBuilder(text);
-        while (padded.length() % 20 != 0) {
-            padded.append(' ');
-        }
-        int answer = 0;
-        for (int at = 0; at < padded.length(); at += 20) {
-            int[] n = new int[5];
-            for (int i = 0; i < 20; i++) {
-                n[i / 4] = n[i / 4] << 8 | padded.charAt(at + i);
-            }
-            answer = x.feed(n[0], n[1], n[2], n[3], n[4]);
-        }
-        return answer;
-    }
-
     private static StrikeHall of(String text) {
         StrikeHall x = new StrikeHall();
-        feed(x, text);
+        Tape.feed(x, text);
         due("hall of " + text, x.hall(text.length()), 0);
         due("fault of " + text, x.fault(), -1);
         return x;
@@ -133,14 +117,14 @@ public final class PromiseTest {
         while (full.length() < 600) {
             full.append('\n');
         }
-        due("2: 600 bytes", feed(y, full.toString()), 600);
+        due("2: 600 bytes", Tape.feed(y, full.toString()), 600);
         due("2: hall of 600 bytes", y.hall(600), 0);
         due("2: people of 600 bytes", y.count(1), 2);
     }
 
     private static void halls() {
         StrikeHall x = of(RING);
-        feed(x, "things 5;things");
+        Tape.feed(x, "things 5;things");
         due("3: n above", caught(() -> x.hall(21)), IllegalArgumentException.class);
         due("3: n below 0", caught(() -> x.hall(-1)), IllegalArgumentException.class);
         due("3: least n", caught(() -> x.hall(Integer.MIN_VALUE)), IllegalArgumentException.class);
@@ -157,7 +141,7 @@ public final class PromiseTest {
         due("3: its holders, too", x.held(3, 1), 10);
         due("4: a throw leaves the fault", caught(() -> x.hall(1)), IllegalArgumentException.class);
         due("4: fault still", x.fault(), 9);
-        feed(x, "things 5;things");
+        Tape.feed(x, "things 5;things");
         due("3: first n bytes", x.hall(9), 0);
         due("4: none", x.fault(), -1);
         due("3: rest is gone", x.count(5), 0);

@@ -49,8 +49,8 @@ public final class RoughTest {
         for (int call = 0; call < 512; call++) {
             if (random.nextInt(40) == 0) {
                 String text = TEXTS[random.nextInt(TEXTS.length)];
-                feed(x, text);
-                feed(twin, text);
+                Tape.feed(x, text);
+                Tape.feed(twin, text);
                 int many = random.nextInt(5) == 0 ? random.nextInt(text.length() + 1) : text.length();
                 due("hall of " + text, answer(x, StrikeHall.class.getMethod("hall", int.class), many),
                     answer(twin, StrikeHall.class.getMethod("hall", int.class), many));
@@ -118,20 +118,6 @@ public final class RoughTest {
         if (!got.equals(want)) {
             wrong++;
             System.out.println(call + " answered " + got + ", due is " + want);
-        }
-    }
-
-    private static void feed(StrikeHall x, String text) {
-        StringBuilder padded = new StringBuilder(text);
-        while (padded.length() % 20 != 0) {
-            padded.append(' ');
-        }
-        for (int at = 0; at < padded.length(); at += 20) {
-            int[] n = new int[5];
-            for (int i = 0; i < 20; i++) {
-                n[i / 4] = n[i / 4] << 8 | padded.charAt(at + i);
-            }
-            x.feed(n[0], n[1], n[2], n[3], n[4]);
         }
     }
 
