@@ -719,12 +719,10 @@ public final class StrikeHall {
             things++;
         }
 
-        /** The turns go, too: they name people by numbers that are others' now. */
+        /** Only the core is asked of such a hall: turns and names stay those of all. */
         void dropPerson(int gone) {
             allWeight -= weights[gone];
             people--;
-            turnCount = 0;
-            named = named & ((1 << gone) - 1) | named >> (gone + 1) << gone;
             for (int who = gone; who < people; who++) {
                 weights[who] = weights[who + 1];
                 for (int thing = 0; thing < things; thing++) {
