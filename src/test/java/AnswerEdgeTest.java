@@ -394,6 +394,9 @@ public final class AnswerEdgeTest {
         EDGE.says(19, "The first FALSE ORDER (as a row), 4 bits each, the dearest lowest");
         EDGE.due("0 over 2 over 1", EDGE.told(TWO).lie(0), 0x120);
         EDGE.due("the first of all", EDGE.told("things 3;person weight 1 likes 0 over 2 over 1;person weight 1 likes 2 over 0 over 1;turns 0 1;").lie(0), 0x210);
+        EDGE.says(19, "A FALSE ORDER (of all m THINGS, no two alike)");
+        // 1 and 2 are alike to 1, so it strikes 2, and 0 is struck behind it; telling that it strikes 1 it keeps 0.
+        EDGE.due("of one that has ties", EDGE.told("things 3;person weight 1 likes 1;person weight 1 likes 0;turns 1 0;").lie(1), 0x120);
         EDGE.says(19, "the greatest PLACE (by its own ORDER)");
         // Told 0 1 2 the end would be 0, the dearest by that order alone. Only 1 2 0 leaves what is dearer by its own.
         EDGE.due("the other one's lie", EDGE.told("things 3;" + RISING + "person weight 1 likes 1 over 0 over 2;turns 1 0;").lie(1), 0x021);
