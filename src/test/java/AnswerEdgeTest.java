@@ -344,6 +344,7 @@ public final class AnswerEdgeTest {
         // 1 will strike of 0 and 2 the one that it likes less, so 0 strikes what 1 would keep against it.
         EDGE.due("one sees to the end", EDGE.told(TWO).deep(), 1);
         EDGE.due("m - 1 turns", EDGE.told("things 9;person weight 1 likes 7;turns 0 0 0 0 0 0 0 0;").deep(), 128);
+        greatestAheadOfSum();
         EDGE.says(16, "of like ones the least sum of PLACES");
         EDGE.due("1 and 2 are alike", EDGE.told("things 3;person weight 1 likes 0;turns 0;").deep(), 5);
         EDGE.due("0 and 1 are alike", EDGE.told("things 3;person weight 1 likes 2;turns 0;").deep(), 6);
@@ -358,6 +359,21 @@ public final class AnswerEdgeTest {
         EDGE.due("the sum", EDGE.told("things 3;person weight 1 likes 0;turns 0;").first(), 1);
         EDGE.due("the least THING", EDGE.told("things 9;person weight 1;turns 0 0 0 0 0 0 0 0;").first(), 0);
         EDGE.due("the greatest THING", EDGE.told("things 9;person weight 1 likes 0 over 1 over 2 over 3 over 4 over 5 over 6 over 7;turns 0;").first(), 8);
+    }
+
+    /** Random halls hardly ever tell these two apart, so OracleTest would not notice: these halls were searched for. */
+    private static void greatestAheadOfSum() {
+        EDGE.says(16, "the greatest PLACE (for it) of what is left at last is least, of like ones the least sum of PLACES");
+        // Behind 1 or 2 come 0 and 3 (greatest 3, sum 5), behind 4 come 1 and 2 (4, 4), behind 0 or 3 worse ones.
+        StrikeHall five = EDGE.told("things 5;person weight 1 likes 1 over 4 over 3 over 0 over 2;"
+            + "person weight 1 likes 2 over 1 over 3 over 0 over 4;person weight 1 likes 0 and 4;turns 0 2 1;");
+        EDGE.due("0 and 3", five.deep(), 9);
+        EDGE.due("behind 1", five.first(), 1);
+        // Behind 5 come 2, 3 and 4 (greatest 4, sum 8), behind 2 come 1, 4 and 5 (5, 6): a sum less by 2 counts no more.
+        StrikeHall six = EDGE.told("things 6;person weight 1 likes 1 over 4 over 0 over 2 over 3;"
+            + "person weight 1 likes 2;person weight 1 likes 1;turns 0 1 2;");
+        EDGE.due("2, 3 and 4", six.deep(), 28);
+        EDGE.due("behind 5", six.first(), 5);
     }
 
     private static void backEnds() {
